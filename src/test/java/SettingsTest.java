@@ -1,0 +1,379 @@
+/** Promises 1 to 9: a new object, and the calls that give a ward its contents. */
+public final class SettingsTest {
+    private static final int NONE = WardRoster.NONE;
+
+    public static void main(String[] args) {
+        promise01NewObject();
+        promise02Open();
+        promise02OpenClearsAll();
+        promise03Contract();
+        promise04Before();
+        promise05Need();
+        promise06Cost();
+        promise07Pair();
+        promise08Fix();
+        promise09Days();
+        changesEndThePrices();
+        refusedCallsChangeNothing();
+        Expect.end();
+    }
+
+    private static void promise01NewObject() {
+        Expect.same("NONE", NONE, -1);
+        expectEmptyWard("a new object", new WardRoster(), 6);
+    }
+
+    private static void promise02Open() {
+        for (int days = 1; days <= 6; days++) {
+            WardRoster x = new WardRoster();
+            x.open(days);
+            expectEmptyWard("open(" + days + ")", x, days);
+        }
+        for (int days : Expect.outside(1, 6)) {
+            WardRoster x = new WardRoster();
+            Expect.badArgument("open(" + days + ")", () -> x.open(days));
+        }
+    }
+
+    private static void promise02OpenClearsAll() {
+        WardRoster x = fullWard();
+        x.open(6);
+        expectEmptyWard("open(6) of a full ward", x, 6);
+    }
+
+    private static void expectEmptyWard(String what, WardRoster x, int days) {
+        int[] linesOfDays = {1, 4, 16, 64, 256, 781, 2881};
+        Expect.same(what + ": days", x.days(), days);
+        Expect.same(what + ": check", x.check(), NONE);
+        Expect.same(what + ": bound", x.bound(), NONE);
+        Expect.same(what + ": least", x.least(), 0);
+        for (int nurse = 0; nurse < 3; nurse++) {
+            Expect.same(what + ": lines", x.lines(nurse), linesOfDays[days]);
+            Expect.same(what + ": line", x.line(nurse), 0);
+            expectEmptyNurse(what, x, nurse, days);
+        }
+        for (int day = 0; day < days; day++) {
+            for (int shift = 1; shift < 4; shift++) {
+                Expect.same(what + ": price", x.price(day, shift), 0);
+                Expect.same(what + ": need", x.need(day, shift, 0), 0);
+            }
+        }
+    }
+
+    private static void expectEmptyNurse(String what, WardRoster x, int nurse, int days) {
+        for (int day = 0; day < days; day++) {
+            Expect.same(what + ": planned", x.planned(nurse, day), NONE);
+            Expect.same(what + ": best", x.best(nurse, day), 0);
+            Expect.same(what + ": fix", x.fix(nurse, day, NONE), NONE);
+            for (int shift = 0; shift < 4; shift++) {
+                Expect.same(what + ": cost", x.cost(nurse, day, shift, 0), 0);
+            }
+        }
+        for (int pair = 0; pair < 16; pair++) {
+            Expect.same(what + ": pair", x.pair(nurse, pair / 4, pair % 4, 0), 0);
+        }
+    }
+
+    /** Six days in which everything is something else than open() makes it. */
+    private static WardRoster fullWard() {
+        WardRoster x = new WardRoster();
+        for (int nurse = 0; nurse < 3; nurse++) {
+            x.contract(nurse, 1 << 15, 2);
+            x.before(nurse, 2, 1);
+            for (int day = 0; day < 6; day++) {
+                x.fix(nurse, day, day % 2 == 0 ? 1 : 0);
+                for (int shift = 0; shift < 4; shift++) {
+                    x.cost(nurse, day, shift, 5);
+                }
+            }
+            for (int pair = 0; pair < 16; pair++) {
+                x.pair(nurse, pair / 4, pair % 4, 9);
+            }
+        }
+        x.need(0, 1, 3);
+        x.adopt();
+        x.need(3, 3, 2);
+        x.raise(3);
+        return x;
+    }
+
+    private static void promise03Contract() {
+        for (int a = 0; a < 4; a++) {
+            for (int b = 0; b < 4; b++) {
+                expectForbidden(a, b);
+            }
+        }
+        for (int longest = 1; longest <= 4; longest++) {
+            expectLongest(longest);
+        }
+        WardRoster x = new WardRoster();
+        x.contract(2, 65535, 4);
+        Expect.same("all pairs forbidden", x.lines(2), 0);
+        Expect.same("another nurse's contract", x.lines(1), 2881);
+        for (int nurse : Expect.outside(0, 2)) {
+            Expect.outOfBounds("contract nurse " + nurse, () -> x.contract(nurse, 0, 4));
+            Expect.outOfBounds("contract nurse before pairs", () -> x.contract(nurse, -1, 9));
+        }
+        for (int pairs : Expect.outside(0, 65535)) {
+            Expect.badArgument("contract pairs " + pairs, () -> x.contract(0, pairs, 4));
+        }
+        for (int longest : Expect.outside(1, 4)) {
+            Expect.badArgument("contract longest " + longest, () -> x.contract(0, 0, longest));
+        }
+    }
+
+    private static void expectForbidden(int a, int b) {
+        WardRoster x = new WardRoster();
+        x.open(2);
+        x.contract(1, 1 << (4 * a + b), 4);
+        x.fix(1, 0, a);
+        boolean alsoFromBefore = a == 0 && b == 0;
+        Expect.same("forbidden " + a + " " + b, x.lines(1), alsoFromBefore ? 0 : 3);
+        x.fix(1, 1, b);
+        Expect.same("forbidden " + a + " " + b + " and fixed", x.lines(1), 0);
+        x.fix(1, 0, NONE);
+        x.fix(1, 1, NONE);
+        x.before(1, a, a == 0 ? 0 : 1);
+        x.fix(1, 0, b);
+        Expect.same("forbidden before day 0: " + a + " " + b, x.lines(1), 0);
+    }
+
+    /** One day more than the longest: the nurse works on all but the last, or the last two. */
+    private static void expectLongest(int longest) {
+        WardRoster x = new WardRoster();
+        x.open(longest + 1);
+        x.contract(0, 0, longest);
+        for (int day = 0; day < longest; day++) {
+            x.fix(0, day, 1 + day % 3);
+        }
+        Expect.same("longest " + longest + ": off must follow", x.lines(0), 1);
+        x.fix(0, longest, 3);
+        Expect.same("longest " + longest + ": one day too many", x.lines(0), 0);
+        x.fix(0, longest, NONE);
+        x.fix(0, longest - 1, 0);
+        Expect.same("longest " + longest + ": off breaks the row", x.lines(0), 4);
+    }
+
+    private static void promise04Before() {
+        WardRoster x = new WardRoster();
+        for (int worked = 1; worked <= 4; worked++) {
+            for (int longest = 1; longest <= 4; longest++) {
+                x.open(1);
+                x.contract(0, 0, longest);
+                x.before(0, 3, worked);
+                Expect.same("before worked " + worked + " of " + longest,
+                        x.lines(0), worked < longest ? 4 : 1);
+            }
+        }
+        x.open(3);
+        x.before(0, 1, 2);
+        x.contract(0, 0, 4);
+        x.fix(0, 0, 2);
+        x.fix(0, 1, 3);
+        Expect.same("before counts with the days behind it", x.lines(0), 1);
+        x.before(0, 0, 0);
+        Expect.same("before is off again", x.lines(0), 4);
+        x.pair(0, 3, 2, 8);
+        x.before(0, 3, 1);
+        Expect.same("the pair with what comes before", x.line(0), 8);
+        for (int nurse : Expect.outside(0, 2)) {
+            Expect.outOfBounds("before nurse " + nurse, () -> x.before(nurse, 0, 0));
+            Expect.outOfBounds("before nurse first", () -> x.before(nurse, 9, 9));
+        }
+        for (int shift : Expect.outside(0, 3)) {
+            Expect.badArgument("before shift " + shift, () -> x.before(0, shift, 1));
+            Expect.badArgument("before shift " + shift, () -> x.before(0, shift, 0));
+        }
+        for (int shift = 1; shift < 4; shift++) {
+            int work = shift;
+            for (int worked : Expect.outside(1, 4)) {
+                Expect.badArgument("before work " + worked, () -> x.before(0, work, worked));
+            }
+        }
+        for (int worked : Expect.outside(0, 0)) {
+            Expect.badArgument("before off " + worked, () -> x.before(0, 0, worked));
+        }
+    }
+
+    private static void promise05Need() {
+        WardRoster x = new WardRoster();
+        x.open(2);
+        Expect.same("need 0", x.need(1, 2, 2), 0);
+        Expect.same("need 2", x.need(1, 2, 3), 2);
+        Expect.same("need 3", x.need(1, 2, 1), 3);
+        Expect.same("need elsewhere", x.need(0, 2, 0), 0);
+        Expect.same("need for another shift", x.need(1, 3, 0), 0);
+        Expect.same("need makes the last nurse work", x.best(2, 1), 2);
+        Expect.same("need leaves the first one off", x.best(0, 1), 0);
+        x.need(1, 1, 3);
+        Expect.same("four nurses needed", x.least(), NONE);
+        for (int day : Expect.outside(0, 1)) {
+            Expect.outOfBounds("need day " + day, () -> x.need(day, 1, 1));
+            Expect.outOfBounds("need day first", () -> x.need(day, 1, 4));
+        }
+        for (int shift : Expect.outside(1, 3)) {
+            Expect.outOfBounds("need shift " + shift, () -> x.need(0, shift, 1));
+            Expect.outOfBounds("need shift first", () -> x.need(0, shift, -1));
+        }
+        for (int many : Expect.outside(0, 3)) {
+            Expect.badArgument("need many " + many, () -> x.need(0, 1, many));
+        }
+    }
+
+    private static void promise06Cost() {
+        WardRoster x = new WardRoster();
+        x.open(2);
+        Expect.same("cost 0", x.cost(1, 1, 0, 99), 0);
+        Expect.same("cost 99", x.cost(1, 1, 0, 98), 99);
+        Expect.same("cost of another day", x.cost(1, 0, 0, 0), 0);
+        Expect.same("cost of another nurse", x.cost(0, 1, 0, 0), 0);
+        for (int shift = 1; shift < 4; shift++) {
+            Expect.same("cost of another shift", x.cost(1, 1, shift, 90 + shift), 0);
+        }
+        Expect.same("the least cost", x.line(1), 91);
+        Expect.same("the least cost's shift", x.best(1, 1), 1);
+        for (int nurse : Expect.outside(0, 2)) {
+            Expect.outOfBounds("cost nurse " + nurse, () -> x.cost(nurse, 0, 0, 0));
+        }
+        for (int day : Expect.outside(0, 1)) {
+            Expect.outOfBounds("cost day " + day, () -> x.cost(0, day, 0, 0));
+        }
+        for (int shift : Expect.outside(0, 3)) {
+            Expect.outOfBounds("cost shift " + shift, () -> x.cost(0, 0, shift, 0));
+            Expect.outOfBounds("cost shift first", () -> x.cost(0, 0, shift, 100));
+        }
+        for (int cost : Expect.outside(0, 99)) {
+            Expect.badArgument("cost cost " + cost, () -> x.cost(0, 0, 0, cost));
+        }
+    }
+
+    private static void promise07Pair() {
+        WardRoster x = new WardRoster();
+        x.open(2);
+        Expect.same("pair 0", x.pair(2, 1, 3, 99), 0);
+        Expect.same("pair 99", x.pair(2, 1, 3, 7), 99);
+        Expect.same("the pair the other way", x.pair(2, 3, 1, 0), 0);
+        Expect.same("another nurse's pair", x.pair(1, 1, 3, 0), 0);
+        x.fix(2, 0, 1);
+        x.fix(2, 1, 3);
+        Expect.same("the pair's cost", x.line(2), 7);
+        x.pair(2, 0, 1, 20);
+        Expect.same("with the pair before day 0", x.line(2), 27);
+        for (int nurse : Expect.outside(0, 2)) {
+            Expect.outOfBounds("pair nurse " + nurse, () -> x.pair(nurse, 0, 0, 0));
+        }
+        for (int shift : Expect.outside(0, 3)) {
+            Expect.outOfBounds("pair a " + shift, () -> x.pair(0, shift, 0, 0));
+            Expect.outOfBounds("pair b " + shift, () -> x.pair(0, 0, shift, 0));
+            Expect.outOfBounds("pair shift first", () -> x.pair(0, 0, shift, 100));
+        }
+        for (int cost : Expect.outside(0, 99)) {
+            Expect.badArgument("pair cost " + cost, () -> x.pair(0, 0, 0, cost));
+        }
+    }
+
+    private static void promise08Fix() {
+        WardRoster x = new WardRoster();
+        x.open(3);
+        Expect.same("fix none", x.fix(1, 2, 0), NONE);
+        Expect.same("fix off", x.fix(1, 2, 3), 0);
+        Expect.same("fixed", x.best(1, 2), 3);
+        Expect.same("lines of a fixed day", x.lines(1), 16);
+        Expect.same("fix night", x.fix(1, 2, NONE), 3);
+        Expect.same("fix none again", x.fix(1, 2, NONE), NONE);
+        Expect.same("lines of no fixed day", x.lines(1), 64);
+        Expect.same("another day", x.fix(1, 1, NONE), NONE);
+        Expect.same("another nurse", x.fix(0, 2, NONE), NONE);
+        for (int nurse : Expect.outside(0, 2)) {
+            Expect.outOfBounds("fix nurse " + nurse, () -> x.fix(nurse, 0, 0));
+        }
+        for (int day : Expect.outside(0, 2)) {
+            Expect.outOfBounds("fix day " + day, () -> x.fix(0, day, 0));
+            Expect.outOfBounds("fix day first", () -> x.fix(0, day, 4));
+        }
+        for (int shift : Expect.outside(NONE, 3)) {
+            Expect.badArgument("fix shift " + shift, () -> x.fix(0, 0, shift));
+        }
+    }
+
+    private static void promise09Days() {
+        WardRoster x = new WardRoster();
+        Expect.same("days of a new object", x.days(), 6);
+        for (int days = 1; days <= 6; days++) {
+            x.open(days);
+            Expect.same("days", x.days(), days);
+        }
+        Expect.badArgument("open(7)", () -> x.open(7));
+        Expect.same("days after a refused open", x.days(), 6);
+    }
+
+    /** Also when the call gives what was there already. */
+    private static void changesEndThePrices() {
+        WardRoster[] x = {null};
+        Expect.Act[] changes = {
+            () -> x[0].open(2),
+            () -> x[0].contract(0, 0, 4),
+            () -> x[0].before(0, 0, 0),
+            () -> x[0].need(0, 1, 2),
+            () -> x[0].cost(0, 0, 0, 0),
+            () -> x[0].pair(0, 0, 0, 0),
+            () -> x[0].fix(0, 0, NONE),
+        };
+        for (int i = 0; i < changes.length; i++) {
+            x[0] = new WardRoster();
+            x[0].open(2);
+            x[0].need(0, 1, 2);
+            x[0].adopt();
+            x[0].raise(2);
+            Expect.same("bound before change " + i, x[0].bound(), 0);
+            Expect.that("a price before change " + i, x[0].price(0, 1) > 0);
+            changes[i].go();
+            Expect.same("bound after change " + i, x[0].bound(), NONE);
+            Expect.same("price after change " + i, x[0].price(0, 1), 0);
+            Expect.same("plan after change " + i, x[0].planned(2, 0), i == 0 ? NONE : 1);
+            x[0].need(0, 1, 2);
+            x[0].raise(1);
+            Expect.same("the first growth is back after change " + i, x[0].price(0, 1), 32);
+        }
+    }
+
+    private static void refusedCallsChangeNothing() {
+        WardRoster x = new WardRoster();
+        x.open(2);
+        x.need(0, 1, 2);
+        x.cost(0, 0, 1, 3);
+        x.cost(1, 0, 1, 3);
+        x.adopt();
+        x.raise(2);
+        int bound = x.bound();
+        int price = x.price(0, 1);
+        Expect.Act[] refused = {
+            () -> x.open(0),
+            () -> x.contract(0, 65535, 5),
+            () -> x.contract(0, 65536, 1),
+            () -> x.before(0, 1, 5),
+            () -> x.before(0, 0, 1),
+            () -> x.need(0, 1, 4),
+            () -> x.need(0, 0, 3),
+            () -> x.cost(0, 0, 1, 100),
+            () -> x.pair(0, 0, 1, 100),
+            () -> x.pair(0, 0, 4, 9),
+            () -> x.fix(0, 0, 4),
+            () -> x.fix(0, 2, 1),
+            () -> x.raise(13),
+            () -> x.raise(0),
+        };
+        for (int i = 0; i < refused.length; i++) {
+            Expect.that("refused " + i, Expect.outcome(refused[i]).startsWith("throws."));
+            Expect.same("bound after refused " + i, x.bound(), bound);
+            Expect.same("price after refused " + i, x.price(0, 1), price);
+            Expect.same("least after refused " + i, x.least(), 3);
+            Expect.same("lines after refused " + i, x.lines(0), 16);
+            Expect.same("check after refused " + i, x.check(), 0);
+        }
+        Expect.same("need", x.need(0, 1, 2), 2);
+        Expect.same("cost", x.cost(0, 0, 1, 3), 3);
+        Expect.same("pair", x.pair(0, 0, 1, 0), 0);
+        Expect.same("fix", x.fix(0, 0, NONE), NONE);
+    }
+}
