@@ -303,15 +303,15 @@ public final class WardRoster {
         return PLACES_BITS - SHIFT_BITS * (NURSES * day + nurse + 1);
     }
 
-    private static long stepKey(int placeBit, int shift, int weight) {
-        return ((long) weight << PLACES_BITS) + ((long) shift << placeBit);
+    private static long stepKey(int bit, int shift, int weight) {
+        return ((long) weight << PLACES_BITS) + ((long) shift << bit);
     }
 
-    private static int shiftAt(long key, int placeBit) {
-        return (int) (key >> placeBit) & SHIFT_MASK;
+    private static int shiftAt(long key, int bit) {
+        return (int) (key >> bit) & SHIFT_MASK;
     }
 
-    /** Prices can make a weight negative: only a shift that keeps the sign gets it back. */
+    /** Prices can make a weight negative, so it is got back with its sign and rounded down. */
     private static int weightOf(long key) {
         return (int) (key >> PLACES_BITS);
     }
@@ -446,12 +446,12 @@ public final class WardRoster {
         }
 
         private void leaveState(Nurse nurse, int day, int state, int[] prices) {
-            int placeBit = placeBit(nurse.number, day);
+            int bit = placeBit(nurse.number, day);
             for (int shift = OFF; shift < SHIFTS; shift++) {
                 int next = nurse.stateAfter(day, state, shift);
                 if (next != NONE) {
                     int weight = nurse.penaltyOf(day, state, shift) - prices[cell(day, shift)];
-                    long key = keys[state] + stepKey(placeBit, shift, weight);
+                    long key = keys[state] + stepKey(bit, shift, weight);
                     nextKeys[next] = Math.min(nextKeys[next], key);
                     nextWays[next] += ways[state];
                 }
@@ -492,11 +492,9 @@ public final class WardRoster {
             Arrays.fill(keys, NO_KEY);
             keys[startTriple(ward)] = 0;
             for (int day = 0; day < ward.dayCount; day++) {
-                int stride = TRIPLES;
                 for (int nurse = 0; nurse < NURSES; nurse++) {
-                    stride /= STATES;
                     readSteps(ward.nurses[nurse], day, plan);
-                    takePlace(stride);
+                    takePlace(nurse);
                 }
                 dropShort(ward, day);
             }
@@ -506,24 +504,30 @@ public final class WardRoster {
         private static int startTriple(Ward ward) {
             int triple = 0;
             for (int nurse = 0; nurse < NURSES; nurse++) {
-                triple = STATES * triple + ward.nurses[nurse].start;
+                triple += strideOf(nurse) * ward.nurses[nurse].start;
             }
             return triple;
         }
 
         private void readSteps(Nurse nurse, int day, long plan) {
-            int placeBit = placeBit(nurse.number, day);
+            int bit = placeBit(nurse.number, day);
             for (int shift = OFF; shift < SHIFTS; shift++) {
-                boolean changes = plan != NO_KEY && shiftAt(plan, placeBit) != shift;
+                boolean changes = plan != NO_KEY && shiftAt(plan, bit) != shift;
                 for (int state = 0; state < STATES; state++) {
                     int weight = nurse.penaltyOf(day, state, shift) + (changes ? CHANGE : 0);
                     statesAfter[cell(state, shift)] = nurse.stateAfter(day, state, shift);
-                    steps[cell(state, shift)] = stepKey(placeBit, shift, weight);
+                    steps[cell(state, shift)] = stepKey(bit, shift, weight);
                 }
             }
         }
 
-        private void takePlace(int stride) {
+        /** How far two triples are apart that have neighbouring states of one nurse. */
+        private static int strideOf(int nurse) {
+            return nurse == 0 ? STATES * STATES : nurse == 1 ? STATES : 1;
+        }
+
+        private void takePlace(int nurse) {
+            int stride = strideOf(nurse);
             Arrays.fill(nextKeys, NO_KEY);
             for (int triple = 0; triple < TRIPLES; triple++) {
                 if (keys[triple] != NO_KEY) {
@@ -539,16 +543,16 @@ public final class WardRoster {
             int state = triple / stride % STATES;
             int others = triple - stride * state;
             for (int shift = OFF; shift < SHIFTS; shift++) {
-                int stateAfter = statesAfter[cell(state, shift)];
-                if (stateAfter != NONE) {
-                    int next = others + stride * stateAfter;
+                int nextState = statesAfter[cell(state, shift)];
+                if (nextState != NONE) {
+                    int next = others + stride * nextState;
                     long key = keys[triple] + steps[cell(state, shift)];
                     nextKeys[next] = Math.min(nextKeys[next], key);
                 }
             }
         }
 
-        /** A triple's nurses have their shifts of the day, so its key stands for all its ways. */
+        /** All ways to a triple have the same shifts on the day: its key tells for all of them. */
         private void dropShort(Ward ward, int day) {
             for (int triple = 0; triple < TRIPLES; triple++) {
                 if (keys[triple] != NO_KEY && ward.countShort(keys[triple], day) > 0) {
@@ -595,7 +599,8 @@ public final class WardRoster {
             int growth = nextGrowth();
             for (int day = 0; day < ward.dayCount; day++) {
                 for (int shift = FIRST_WORK; shift < SHIFTS; shift++) {
-                    int moved = prices[cell(day, shift)] + growth * ward.missing(pricedLines, day, shift);
+                    int missing = ward.missing(pricedLines, day, shift);
+                    int moved = prices[cell(day, shift)] + growth * missing;
                     prices[cell(day, shift)] = Math.max(0, Math.min(MOST_PRICE, moved));
                 }
             }
