@@ -4,12 +4,21 @@ public final class PlanTest {
 
     public static void main(String[] args) {
         promise17Adopt();
+        promise17AdoptWithoutPenalty();
+        promise17AdoptReplacesThePlan();
         promise18Repair();
         promise18RepairOfSeveral();
+        promise18RepairFewestPlacesFirst();
         promise18RepairOfNothing();
+        promise18RepairOfEveryPlace();
+        promise18RepairOfAPlanWithFaults();
         promise18RepairRefused();
         promise19Planned();
+        promise19PlannedIsNotTheBest();
         promise20Check();
+        promise20CheckCountsFewerAlone();
+        promise20CheckOfEachDay();
+        promise20CheckOfEveryFault();
         Expect.end();
     }
 
@@ -51,6 +60,30 @@ public final class PlanTest {
         x.contract(0, 65535, 4);
         Expect.noElement("adopt without a roster", () -> x.adopt());
         expectPlan("a refused adopt leaves the plan", x, "001", "010");
+    }
+
+    private static void promise17AdoptWithoutPenalty() {
+        WardRoster x = new WardRoster();
+        Expect.same("a ward without costs", x.adopt(), 0);
+        expectPlan("all off", x, "000", "000", "000", "000", "000", "000");
+        Expect.same("is a plan without faults", x.check(), 0);
+    }
+
+    /** A plan that is there does not matter: it is the best roster that is taken up. */
+    private static void promise17AdoptReplacesThePlan() {
+        WardRoster x = earlyWard();
+        x.fix(0, 0, 3);
+        Expect.same("adopt", x.adopt(), 10);
+        expectPlan("with a night", x, "301", "001");
+        x.fix(0, 0, NONE);
+        Expect.same("repair keeps it", x.repair(), 0);
+        Expect.same("adopt again", x.adopt(), 10);
+        expectPlan("before the other one", x, "001", "001");
+        Expect.same("repair of the best", x.repair(), 0);
+        x.open(1);
+        x.need(0, 2, 3);
+        x.adopt();
+        expectPlan("one day", x, "222");
     }
 
     private static void promise18Repair() {
@@ -115,6 +148,70 @@ public final class PlanTest {
         Expect.same("a repair has no faults", x.check(), 0);
     }
 
+    /** One change for a penalty of 198 goes before two changes for none. */
+    private static void promise18RepairFewestPlacesFirst() {
+        WardRoster x = new WardRoster();
+        x.open(2);
+        x.fix(0, 0, 1);
+        x.fix(0, 1, 1);
+        x.adopt();
+        x.fix(0, 0, 2);
+        x.fix(0, 1, NONE);
+        x.cost(0, 1, 1, 99);
+        x.pair(0, 2, 1, 99);
+        Expect.same("one change", x.repair(), 1);
+        expectPlan("for a penalty of 198", x, "200", "100");
+        Expect.same("the best roster has none", x.least(), 0);
+        x.contract(0, 1 << 4 * 2 + 1, 4);
+        Expect.same("off for early", x.repair(), 1);
+        expectPlan("is before the other shifts", x, "200", "000");
+    }
+
+    private static void promise18RepairOfEveryPlace() {
+        for (int days = 1; days <= 6; days++) {
+            WardRoster x = new WardRoster();
+            x.open(days);
+            for (int nurse = 0; nurse < 3; nurse++) {
+                for (int day = 0; day < days; day++) {
+                    x.fix(nurse, day, day % 2 == 0 ? 0 : 3);
+                }
+            }
+            x.adopt();
+            for (int nurse = 0; nurse < 3; nurse++) {
+                for (int day = 0; day < days; day++) {
+                    x.fix(nurse, day, day % 2 == 0 ? 3 : 0);
+                }
+            }
+            Expect.same("no line of the plan is legal", x.check(), 300);
+            Expect.same("every place is changed", x.repair(), 3 * days);
+            Expect.same("every line is legal", x.check(), 0);
+            Expect.same("nothing is left to repair", x.repair(), 0);
+        }
+    }
+
+    /** It is counted from the plan as it is, though it is no roster any more. */
+    private static void promise18RepairOfAPlanWithFaults() {
+        WardRoster x = new WardRoster();
+        x.open(4);
+        for (int day = 0; day < 4; day++) {
+            x.fix(0, day, 2);
+        }
+        x.adopt();
+        for (int day = 0; day < 4; day++) {
+            x.fix(0, day, NONE);
+        }
+        x.contract(0, 0, 1);
+        Expect.same("four days on end", x.check(), 100);
+        Expect.same("two days off", x.repair(), 2);
+        expectPlan("on the first day and the third", x, "000", "200", "000", "200");
+        x.before(0, 2, 1);
+        Expect.same("off on day 0 anyway", x.repair(), 0);
+        x.contract(0, 0, 4);
+        x.fix(0, 0, 2);
+        Expect.same("one day back", x.repair(), 1);
+        expectPlan("from the repaired plan", x, "200", "200", "000", "200");
+    }
+
     private static void promise18RepairRefused() {
         WardRoster x = earlyWard();
         Expect.badState("repair without a plan", () -> x.repair());
@@ -150,6 +247,19 @@ public final class PlanTest {
         Expect.outOfBounds("planned nurse without a plan", () -> x.planned(3, 0));
     }
 
+    private static void promise19PlannedIsNotTheBest() {
+        WardRoster x = earlyWard();
+        x.adopt();
+        x.cost(2, 0, 1, 99);
+        Expect.same("another roster is the best", x.best(1, 0), 1);
+        expectPlan("the plan stays", x, "001", "001");
+        x.need(0, 1, 0);
+        x.before(1, 1, 1);
+        x.pair(1, 1, 0, 50);
+        x.contract(2, 65535, 1);
+        expectPlan("without a roster too", x, "001", "001");
+    }
+
     private static void promise20Check() {
         WardRoster x = earlyWard();
         Expect.same("no plan", x.check(), NONE);
@@ -180,5 +290,56 @@ public final class PlanTest {
         Expect.same("nothing forbidden", x.check(), 203);
         x.open(2);
         Expect.same("no plan after open", x.check(), NONE);
+    }
+
+    /** As many as are needed, or more, are no fault; nor is a plan that others would better. */
+    private static void promise20CheckCountsFewerAlone() {
+        WardRoster x = new WardRoster();
+        x.open(1);
+        x.fix(0, 0, 3);
+        x.fix(1, 0, 3);
+        x.adopt();
+        for (int many = 0; many <= 3; many++) {
+            x.need(0, 3, many);
+            Expect.same("two nurses where " + many + " are needed", x.check(), many > 2 ? 1 : 0);
+        }
+        x.need(0, 3, 0);
+        x.cost(0, 0, 3, 99);
+        Expect.same("a penalty is no fault", x.check(), 0);
+        x.need(0, 1, 3);
+        x.need(0, 2, 3);
+        Expect.same("each shift counts once", x.check(), 2);
+    }
+
+    /** A nurse who has a shift on one day is missed on all other ones, the last one too. */
+    private static void promise20CheckOfEachDay() {
+        for (int place = 0; place < 18; place++) {
+            WardRoster x = new WardRoster();
+            x.fix(place % 3, place / 3, 2);
+            x.adopt();
+            for (int day = 0; day < 6; day++) {
+                x.need(day, 2, 1);
+                boolean isThere = day == place / 3;
+                Expect.same("place " + place + ", day " + day, x.check(), isThere ? 0 : 1);
+                x.need(day, 2, 0);
+            }
+        }
+    }
+
+    private static void promise20CheckOfEveryFault() {
+        WardRoster x = new WardRoster();
+        x.adopt();
+        int shorts = 0;
+        for (int day = 0; day < 6; day++) {
+            for (int shift = 1; shift < 4; shift++) {
+                x.need(day, shift, 3);
+                shorts++;
+                Expect.same("shifts that are short", x.check(), shorts);
+            }
+        }
+        for (int nurse = 0; nurse < 3; nurse++) {
+            x.contract(nurse, 65535, 1);
+            Expect.same("lines that are not legal", x.check(), 100 * nurse + 118);
+        }
     }
 }

@@ -7,7 +7,9 @@ public final class SearchTest {
         promise11Line();
         promise12Least();
         promise12LeastAtTheEdges();
+        promise12NothingIsNotNone();
         promise13Best();
+        promise13BestChangesWithTheWard();
         promise13BestOfSeveral();
         Expect.end();
     }
@@ -127,6 +129,49 @@ public final class SearchTest {
         Expect.same("all work on day 1, so two are off on day 3", x.least(), NONE);
         x.need(3, 2, 1);
         Expect.same("one of three works on day 3", x.least(), 0);
+    }
+
+    /** A penalty of 0 is told from no line and no roster. */
+    private static void promise12NothingIsNotNone() {
+        WardRoster x = new WardRoster();
+        x.open(1);
+        Expect.same("line", x.line(0), 0);
+        Expect.same("least", x.least(), 0);
+        x.fix(0, 0, 1);
+        x.contract(0, 1 << 1, 4);
+        Expect.same("no line", x.line(0), NONE);
+        Expect.same("no lines", x.lines(0), 0);
+        Expect.same("no roster", x.least(), NONE);
+        x.contract(0, 1 << 0, 4);
+        Expect.same("one line", x.lines(0), 1);
+        Expect.same("its penalty", x.line(0), 0);
+        Expect.same("the roster's", x.least(), 0);
+    }
+
+    /** Each kind of change is seen by a best roster that was asked for before it. */
+    private static void promise13BestChangesWithTheWard() {
+        WardRoster x = new WardRoster();
+        x.open(2);
+        expectBest(x, "000", "000");
+        x.need(1, 3, 1);
+        expectBest(x, "000", "003");
+        x.cost(2, 1, 3, 5);
+        expectBest(x, "000", "030");
+        x.pair(1, 0, 3, 4);
+        expectBest(x, "000", "300");
+        x.fix(0, 1, 1);
+        expectBest(x, "010", "130");
+        x.contract(1, 65535 - 1, 4);
+        expectBest(x, "000", "103");
+        x.before(0, 2, 4);
+        expectBest(x, "000", "103");
+        x.contract(0, 1 << 4 * 0 + 1 | 1 << 4 * 2 + 0, 4);
+        Expect.same("no roster behind four days and no off", x.least(), NONE);
+        x.before(0, 2, 2);
+        expectBest(x, "100", "103");
+        x.open(1);
+        expectBest(x, "000");
+        Expect.same("least of one day", x.least(), 0);
     }
 
     private static void promise13Best() {

@@ -6,15 +6,20 @@ public final class SettingsTest {
         promise01NewObject();
         promise02Open();
         promise02OpenClearsAll();
+        promise02OpenMoreDaysAgain();
+        promise02OpenIsNeededForDays();
         promise03Contract();
+        promise03ContractIsReplaced();
+        promise03ContractAtTheEdges();
         promise04Before();
+        promise04BeforeIsReplaced();
+        promise04BeforeAtTheEdges();
+        promise04BeforeAndContractInAnyOrder();
         promise05Need();
         promise06Cost();
         promise07Pair();
         promise08Fix();
         promise09Days();
-        changesEndThePrices();
-        refusedCallsChangeNothing();
         Expect.end();
     }
 
@@ -36,9 +41,40 @@ public final class SettingsTest {
     }
 
     private static void promise02OpenClearsAll() {
+        for (int days = 1; days <= 6; days++) {
+            WardRoster x = fullWard();
+            x.open(days);
+            expectEmptyWard("open(" + days + ") of a full ward", x, days);
+        }
+    }
+
+    /** Days that were gone for a while come back empty. */
+    private static void promise02OpenMoreDaysAgain() {
         WardRoster x = fullWard();
+        x.open(2);
         x.open(6);
-        expectEmptyWard("open(6) of a full ward", x, 6);
+        expectEmptyWard("open(6) behind open(2)", x, 6);
+    }
+
+    private static void promise02OpenIsNeededForDays() {
+        for (int days = 1; days <= 6; days++) {
+            WardRoster x = new WardRoster();
+            x.open(days);
+            int last = days - 1;
+            int behind = days;
+            Expect.same("the last day's need", x.need(last, 3, 0), 0);
+            Expect.same("the last day's cost", x.cost(2, last, 3, 0), 0);
+            Expect.same("the last day's fixed shift", x.fix(2, last, NONE), NONE);
+            Expect.same("the last day's best", x.best(2, last), 0);
+            Expect.same("the last day's price", x.price(last, 3), 0);
+            Expect.same("the last day's plan", x.planned(2, last), NONE);
+            Expect.outOfBounds("need behind it", () -> x.need(behind, 3, 0));
+            Expect.outOfBounds("cost behind it", () -> x.cost(2, behind, 3, 0));
+            Expect.outOfBounds("fix behind it", () -> x.fix(2, behind, NONE));
+            Expect.outOfBounds("best behind it", () -> x.best(2, behind));
+            Expect.outOfBounds("price behind it", () -> x.price(behind, 3));
+            Expect.outOfBounds("planned behind it", () -> x.planned(2, behind));
+        }
     }
 
     private static void expectEmptyWard(String what, WardRoster x, int days) {
@@ -122,6 +158,34 @@ public final class SettingsTest {
         }
     }
 
+    private static void promise03ContractIsReplaced() {
+        WardRoster x = new WardRoster();
+        x.open(2);
+        x.contract(0, 1 << 0, 1);
+        Expect.same("not two days off, nor two days of work", x.lines(0), 3);
+        x.contract(0, 1 << 15, 2);
+        Expect.same("not two nights", x.lines(0), 15);
+        x.contract(0, 0, 4);
+        Expect.same("nothing forbidden any more", x.lines(0), 16);
+    }
+
+    private static void promise03ContractAtTheEdges() {
+        WardRoster x = new WardRoster();
+        for (int nurse = 0; nurse < 3; nurse++) {
+            x.open(2);
+            x.contract(nurse, 0, 1);
+            Expect.same("no pairs, longest 1", x.lines(nurse), 7);
+            x.contract(nurse, 65534, 4);
+            Expect.same("all pairs but the lowest bit, longest 4", x.lines(nurse), 1);
+            x.contract(nurse, 65535, 4);
+            Expect.same("all pairs, longest 4", x.lines(nurse), 0);
+            x.contract(nurse, 1 << 15, 4);
+            Expect.same("the highest bit, longest 4", x.lines(nurse), 15);
+            Expect.same("the next nurse", x.lines((nurse + 1) % 3), 16);
+            Expect.same("the nurse after that", x.lines((nurse + 2) % 3), 16);
+        }
+    }
+
     private static void expectForbidden(int a, int b) {
         WardRoster x = new WardRoster();
         x.open(2);
@@ -193,6 +257,52 @@ public final class SettingsTest {
         for (int worked : Expect.outside(0, 0)) {
             Expect.badArgument("before off " + worked, () -> x.before(0, 0, worked));
         }
+    }
+
+    private static void promise04BeforeIsReplaced() {
+        WardRoster x = new WardRoster();
+        x.open(1);
+        x.contract(1, 0, 2);
+        x.pair(1, 3, 0, 30);
+        x.pair(1, 2, 0, 20);
+        x.fix(1, 0, 0);
+        x.before(1, 3, 4);
+        Expect.same("a night before", x.line(1), 30);
+        x.before(1, 2, 1);
+        Expect.same("late before", x.line(1), 20);
+        x.fix(1, 0, NONE);
+        Expect.same("one day worked instead of four", x.lines(1), 4);
+        x.before(1, 0, 0);
+        x.fix(1, 0, 0);
+        Expect.same("off before", x.line(1), 0);
+    }
+
+    private static void promise04BeforeAtTheEdges() {
+        for (int nurse = 0; nurse < 3; nurse++) {
+            for (int shift = 1; shift < 4; shift++) {
+                WardRoster x = new WardRoster();
+                x.before(nurse, shift, 1);
+                Expect.same("one day worked", x.lines(nurse), 2881 - 3 * 3 * 3 * 3 * 4);
+                x.before(nurse, shift, 4);
+                Expect.same("four days worked", x.lines(nurse), 781);
+                x.before(nurse, 0, 0);
+                Expect.same("off", x.lines(nurse), 2881);
+            }
+        }
+    }
+
+    /** Four days worked are four, also where the contract that stood then allowed fewer. */
+    private static void promise04BeforeAndContractInAnyOrder() {
+        WardRoster x = new WardRoster();
+        x.open(1);
+        x.contract(0, 0, 1);
+        x.before(0, 2, 4);
+        x.contract(0, 0, 4);
+        Expect.same("four days worked", x.lines(0), 1);
+        x.before(0, 2, 3);
+        Expect.same("three days worked", x.lines(0), 4);
+        x.contract(0, 0, 3);
+        Expect.same("three days worked, longest 3", x.lines(0), 1);
     }
 
     private static void promise05Need() {
@@ -305,75 +415,5 @@ public final class SettingsTest {
         }
         Expect.badArgument("open(7)", () -> x.open(7));
         Expect.same("days after a refused open", x.days(), 6);
-    }
-
-    /** Also when the call gives what was there already. */
-    private static void changesEndThePrices() {
-        WardRoster[] x = {null};
-        Expect.Act[] changes = {
-            () -> x[0].open(2),
-            () -> x[0].contract(0, 0, 4),
-            () -> x[0].before(0, 0, 0),
-            () -> x[0].need(0, 1, 2),
-            () -> x[0].cost(0, 0, 0, 0),
-            () -> x[0].pair(0, 0, 0, 0),
-            () -> x[0].fix(0, 0, NONE),
-        };
-        for (int i = 0; i < changes.length; i++) {
-            x[0] = new WardRoster();
-            x[0].open(2);
-            x[0].need(0, 1, 2);
-            x[0].adopt();
-            x[0].raise(2);
-            Expect.same("bound before change " + i, x[0].bound(), 0);
-            Expect.that("a price before change " + i, x[0].price(0, 1) > 0);
-            changes[i].go();
-            Expect.same("bound after change " + i, x[0].bound(), NONE);
-            Expect.same("price after change " + i, x[0].price(0, 1), 0);
-            Expect.same("plan after change " + i, x[0].planned(2, 0), i == 0 ? NONE : 1);
-            x[0].need(0, 1, 2);
-            x[0].raise(1);
-            Expect.same("the first growth is back after change " + i, x[0].price(0, 1), 32);
-        }
-    }
-
-    private static void refusedCallsChangeNothing() {
-        WardRoster x = new WardRoster();
-        x.open(2);
-        x.need(0, 1, 2);
-        x.cost(0, 0, 1, 3);
-        x.cost(1, 0, 1, 3);
-        x.adopt();
-        x.raise(2);
-        int bound = x.bound();
-        int price = x.price(0, 1);
-        Expect.Act[] refused = {
-            () -> x.open(0),
-            () -> x.contract(0, 65535, 5),
-            () -> x.contract(0, 65536, 1),
-            () -> x.before(0, 1, 5),
-            () -> x.before(0, 0, 1),
-            () -> x.need(0, 1, 4),
-            () -> x.need(0, 0, 3),
-            () -> x.cost(0, 0, 1, 100),
-            () -> x.pair(0, 0, 1, 100),
-            () -> x.pair(0, 0, 4, 9),
-            () -> x.fix(0, 0, 4),
-            () -> x.fix(0, 2, 1),
-            () -> x.raise(13),
-            () -> x.raise(0),
-        };
-        for (int i = 0; i < refused.length; i++) {
-            Expect.that("refused " + i, Expect.outcome(refused[i]).startsWith("throws."));
-            Expect.same("bound after refused " + i, x.bound(), bound);
-            Expect.same("price after refused " + i, x.price(0, 1), price);
-            Expect.same("least after refused " + i, x.least(), 3);
-            Expect.same("lines after refused " + i, x.lines(0), 16);
-            Expect.same("check after refused " + i, x.check(), 0);
-        }
-        Expect.same("need", x.need(0, 1, 2), 2);
-        Expect.same("cost", x.cost(0, 0, 1, 3), 3);
-        Expect.same("pair", x.pair(0, 0, 1, 0), 0);
-        Expect.same("fix", x.fix(0, 0, NONE), NONE);
     }
 }
