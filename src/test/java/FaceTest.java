@@ -102,11 +102,11 @@ public final class FaceTest {
         callAll(x);
         long thread = Thread.currentThread().getId();
         long before = threads.getThreadAllocatedBytes(thread);
-        for (int i = 0; i < 30; i++) {
+        for (int i = 0; i < 24; i++) {
             callAll(x);
         }
         long made = threads.getThreadAllocatedBytes(thread) - before;
-        Expect.that("600 calls make no rows, but made " + made + " bytes", made < 20_000);
+        Expect.that("480 calls make no rows, but made " + made + " bytes", made < 20_000);
     }
 
     private static void callAll(WardRoster x) {

@@ -19,6 +19,7 @@ public final class SettingsTest {
         promise06Cost();
         promise07Pair();
         promise08Fix();
+        eachSettingIsItsOwn();
         promise09Days();
         Expect.end();
     }
@@ -403,6 +404,31 @@ public final class SettingsTest {
         }
         for (int shift : Expect.outside(NONE, 3)) {
             Expect.badArgument("fix shift " + shift, () -> x.fix(0, 0, shift));
+        }
+    }
+
+    /** All needs, costs, pairs and fixed shifts are given, and then all are asked for. */
+    private static void eachSettingIsItsOwn() {
+        WardRoster x = new WardRoster();
+        for (int i = 0; i < 18; i++) {
+            Expect.same("first need", x.need(i / 3, i % 3 + 1, i * i % 4), 0);
+            Expect.same("first fixed shift", x.fix(i / 6, i % 6, i % 5 - 1), NONE);
+        }
+        for (int i = 0; i < 72; i++) {
+            Expect.same("first cost", x.cost(i / 24, i / 4 % 6, i % 4, 99 - i), 0);
+        }
+        for (int i = 0; i < 48; i++) {
+            Expect.same("first pair", x.pair(i / 16, i / 4 % 4, i % 4, 50 + i), 0);
+        }
+        for (int i = 0; i < 18; i++) {
+            Expect.same("need " + i, x.need(i / 3, i % 3 + 1, 0), i * i % 4);
+            Expect.same("fixed shift " + i, x.fix(i / 6, i % 6, NONE), i % 5 - 1);
+        }
+        for (int i = 0; i < 72; i++) {
+            Expect.same("cost " + i, x.cost(i / 24, i / 4 % 6, i % 4, 0), 99 - i);
+        }
+        for (int i = 0; i < 48; i++) {
+            Expect.same("pair " + i, x.pair(i / 16, i / 4 % 4, i % 4, 0), 50 + i);
         }
     }
 
