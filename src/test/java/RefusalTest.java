@@ -7,7 +7,7 @@ import java.util.function.Supplier;
 
 /**
  * "Of several exceptions that fit the one named first is thrown; a call that throws changes
- * nothing." Each call that can be refused is made, in wards of several kinds, with every mixture of
+ * nothing." Each call that can be refused is made, in wards of several kinds, with mixtures of
  * good and wrong arguments; what can be told of the object afterwards is what can be told of one
  * that was made alike and not called.
  */
