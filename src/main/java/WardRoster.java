@@ -33,7 +33,8 @@ public final class WardRoster {
     private static final int SHIFT_BITS = 2;
     private static final int SHIFT_MASK = 3;
     private static final int PLACES_BITS = SHIFT_BITS * NURSES * MOST_DAYS;
-    private static final long NO_KEY = Long.MAX_VALUE;
+    /** Above every key: the weight of a roster, changes and all, stays below 2 to the 17. */
+    private static final long NO_KEY = 1L << 62;
 
     /** The weight of a change: more than any penalty, which is at most 18 * (99 + 99). */
     private static final int CHANGE = 4096;

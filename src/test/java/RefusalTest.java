@@ -212,7 +212,8 @@ public final class RefusalTest {
         for (int i = 0; i < ranges.length; i++) {
             int low = ranges[i].lowest;
             int high = ranges[i].highest;
-            int[] choices = alsoOutside ? new int[] {low, low - 1, high + 1} : new int[] {low, high};
+            int[] choices = alsoOutside
+                    ? new int[] {low, low - 1, high + 1} : new int[] {low, high};
             List<int[]> longer = new ArrayList<>();
             for (int[] values : all) {
                 for (int choice : choices) {
